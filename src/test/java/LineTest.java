@@ -130,11 +130,11 @@ public final class LineTest {
     }
 
     private static void dropMovesLaterBitsDown() {
-        DeepSpaceLink x = lineOf("110100");
+        DeepSpaceLink x = lineOf("110101");
         Check.due("drop(3)", x.drop(3), 5);
-        holds("drop(3)", x, "11000");
+        holds("drop(3)", x, "11001");
         Check.due("drop(0)", x.drop(0), 4);
-        holds("drop(0)", x, "1000");
+        holds("drop(0)", x, "1001");
         Check.due("drop(3)", x.drop(3), 3);
         holds("drop(3), the last", x, "100");
         int[] outside = {-1, 3, 4, 300, Integer.MIN_VALUE, Integer.MAX_VALUE};
