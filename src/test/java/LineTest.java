@@ -40,46 +40,13 @@ public final class LineTest {
         DeepSpaceLink x = new DeepSpaceLink();
         String call = "send(" + message + ")";
         Check.due(call, x.send(message), 50);
-        holds(call, x, marker + inBits(symbols));
+        Lines.holds(call, x, marker + Lines.inBits(symbols));
         // A second frame is put behind what is there, whatever that is.
         x.clear();
         x.insert(0, true);
         x.insert(1, false);
         Check.due(call + " behind 10", x.send(message), 52);
-        holds(call + " behind 10", x, "10" + marker + inBits(symbols));
-    }
-
-    private static String inBits(String symbols) {
-        StringBuilder bits = new StringBuilder();
-        for (char symbol : symbols.toCharArray()) {
-            int value = symbol - '0';
-            bits.append(value >> 2).append(value >> 1 & 1).append(value & 1);
-        }
-        return bits.toString();
-    }
-
-    private static void holds(String when, DeepSpaceLink x, String bits) {
-        Check.due(when + ": bits()", x.bits(), bits.length());
-        for (int i = 0; i < bits.length(); i++) {
-            Check.due(when + ": bit(" + i + ")", x.bit(i), bits.charAt(i) - '0');
-        }
-        Check.due(when + ": bit(" + bits.length() + ")", x.bit(bits.length()), DeepSpaceLink.BAD);
-    }
-
-    private static DeepSpaceLink lineOf(String bits) {
-        DeepSpaceLink x = new DeepSpaceLink();
-        for (int i = 0; i < bits.length(); i++) {
-            Check.due("insert(" + i + ")", x.insert(i, bits.charAt(i) == '1'), i + 1);
-        }
-        return x;
-    }
-
-    private static DeepSpaceLink fullLine() {
-        DeepSpaceLink x = new DeepSpaceLink();
-        for (int n = 1; n <= 6; n++) {
-            Check.due("send number " + n, x.send(n), 50 * n);
-        }
-        return x;
+        Lines.holds(call + " behind 10", x, "10" + marker + Lines.inBits(symbols));
     }
 
     private static void sendLooksAtTheMessageBeforeTheRoom() {
@@ -89,7 +56,7 @@ public final class LineTest {
             Check.due("send(" + message + ")", x.send(message), DeepSpaceLink.BAD);
             Check.due("bits() after a bad send", x.bits(), 0);
         }
-        x = fullLine();
+        x = Lines.full();
         for (int message : outside) {
             Check.due("full: send(" + message + ")", x.send(message), DeepSpaceLink.BAD);
         }
@@ -99,7 +66,7 @@ public final class LineTest {
     }
 
     private static void sendNeedsRoomForAWholeFrame() {
-        DeepSpaceLink x = fullLine();
+        DeepSpaceLink x = Lines.full();
         for (int left = 299; left > 250; left--) {
             x.drop(left);
             Check.due("send(5) with " + left, x.send(5), DeepSpaceLink.FULL);
@@ -110,72 +77,72 @@ public final class LineTest {
     }
 
     private static void flipTurnsOneBit() {
-        DeepSpaceLink x = lineOf("0110");
+        DeepSpaceLink x = Lines.of("0110");
         Check.due("flip(0)", x.flip(0), 1);
-        holds("flip(0)", x, "1110");
+        Lines.holds("flip(0)", x, "1110");
         Check.due("flip(2)", x.flip(2), 0);
-        holds("flip(2)", x, "1100");
+        Lines.holds("flip(2)", x, "1100");
         Check.due("flip(3)", x.flip(3), 1);
         Check.due("flip(3)", x.flip(3), 0);
-        holds("flip(3) twice", x, "1100");
+        Lines.holds("flip(3) twice", x, "1100");
         int[] outside = {-1, 4, 5, 300, Integer.MIN_VALUE, Integer.MAX_VALUE};
         for (int i : outside) {
             Check.due("flip(" + i + ")", x.flip(i), DeepSpaceLink.BAD);
         }
-        holds("bad flips", x, "1100");
-        x = fullLine();
+        Lines.holds("bad flips", x, "1100");
+        x = Lines.full();
         int before = x.bit(299);
         Check.due("full: flip(299)", x.flip(299), 1 - before);
         Check.due("full: flip(300)", x.flip(300), DeepSpaceLink.BAD);
     }
 
     private static void dropMovesLaterBitsDown() {
-        DeepSpaceLink x = lineOf("110101");
+        DeepSpaceLink x = Lines.of("110101");
         Check.due("drop(3)", x.drop(3), 5);
-        holds("drop(3)", x, "11001");
+        Lines.holds("drop(3)", x, "11001");
         Check.due("drop(0)", x.drop(0), 4);
-        holds("drop(0)", x, "1001");
+        Lines.holds("drop(0)", x, "1001");
         Check.due("drop(3)", x.drop(3), 3);
-        holds("drop(3), the last", x, "100");
+        Lines.holds("drop(3), the last", x, "100");
         int[] outside = {-1, 3, 4, 300, Integer.MIN_VALUE, Integer.MAX_VALUE};
         for (int i : outside) {
             Check.due("drop(" + i + ")", x.drop(i), DeepSpaceLink.BAD);
         }
-        holds("bad drops", x, "100");
+        Lines.holds("bad drops", x, "100");
         x.drop(0);
         x.drop(0);
         Check.due("drop(0), the only one", x.drop(0), 0);
         Check.due("drop(0) of none", x.drop(0), DeepSpaceLink.BAD);
-        x = fullLine();
+        x = Lines.full();
         Check.due("full: drop(300)", x.drop(300), DeepSpaceLink.BAD);
         Check.due("full: drop(299)", x.drop(299), 299);
         Check.due("full: drop(0)", x.drop(0), 298);
     }
 
     private static void insertMovesLaterBitsUp() {
-        DeepSpaceLink x = lineOf("0110");
+        DeepSpaceLink x = Lines.of("0110");
         Check.due("insert(0, true)", x.insert(0, true), 5);
-        holds("insert(0, true)", x, "10110");
+        Lines.holds("insert(0, true)", x, "10110");
         Check.due("insert(2, false)", x.insert(2, false), 6);
-        holds("insert(2, false)", x, "100110");
+        Lines.holds("insert(2, false)", x, "100110");
         Check.due("insert(6, true)", x.insert(6, true), 7);
-        holds("insert(6, true)", x, "1001101");
+        Lines.holds("insert(6, true)", x, "1001101");
         Check.due("insert(7, false)", x.insert(7, false), 8);
-        holds("insert(7, false)", x, "10011010");
+        Lines.holds("insert(7, false)", x, "10011010");
         int[] outside = {-1, 9, 10, 300, 301, Integer.MIN_VALUE, Integer.MAX_VALUE};
         for (int i : outside) {
             Check.due("insert(" + i + ", true)", x.insert(i, true), DeepSpaceLink.BAD);
         }
-        holds("bad inserts", x, "10011010");
+        Lines.holds("bad inserts", x, "10011010");
         // What was left behind by a drop or a clear is not seen again.
         x.clear();
         x.insert(0, false);
         x.insert(1, false);
-        holds("inserts after clear", x, "00");
+        Lines.holds("inserts after clear", x, "00");
     }
 
     private static void insertLooksAtThePlaceBeforeTheRoom() {
-        DeepSpaceLink x = fullLine();
+        DeepSpaceLink x = Lines.full();
         Check.due("full: insert(301)", x.insert(301, true), DeepSpaceLink.BAD);
         Check.due("full: insert(-1)", x.insert(-1, true), DeepSpaceLink.BAD);
         Check.due("full: insert(300)", x.insert(300, true), DeepSpaceLink.FULL);
@@ -192,7 +159,7 @@ public final class LineTest {
     }
 
     private static void clearEmptiesTheLine() {
-        DeepSpaceLink x = fullLine();
+        DeepSpaceLink x = Lines.full();
         Check.due("clear() of a full line", x.clear(), 300);
         Check.due("bits() after clear", x.bits(), 0);
         Check.due("bit(0) after clear", x.bit(0), DeepSpaceLink.BAD);
@@ -206,23 +173,23 @@ public final class LineTest {
     }
 
     private static void bitsAndBitLeaveTheLineAlone() {
-        DeepSpaceLink x = lineOf("101");
+        DeepSpaceLink x = Lines.of("101");
         int[] outside = {-1, 3, 4, 299, 300, 301, Integer.MIN_VALUE, Integer.MAX_VALUE};
         for (int i : outside) {
             Check.due("bit(" + i + ")", x.bit(i), DeepSpaceLink.BAD);
         }
-        holds("twice", x, "101");
-        holds("twice", x, "101");
-        x = fullLine();
+        Lines.holds("twice", x, "101");
+        Lines.holds("twice", x, "101");
+        x = Lines.full();
         Check.due("full: bits()", x.bits(), 300);
         Check.due("full: bit(300)", x.bit(300), DeepSpaceLink.BAD);
         Check.due("full: bit(250)", x.bit(250), 1);
     }
 
     private static void objectsHaveTheirOwnLines() {
-        DeepSpaceLink x = lineOf("11");
-        DeepSpaceLink y = lineOf("000");
-        holds("the first of two", x, "11");
-        holds("the second of two", y, "000");
+        DeepSpaceLink x = Lines.of("11");
+        DeepSpaceLink y = Lines.of("000");
+        Lines.holds("the first of two", x, "11");
+        Lines.holds("the second of two", y, "000");
     }
 }

@@ -14,22 +14,6 @@ public final class MendTest {
         Check.end();
     }
 
-    private static DeepSpaceLink sent(int message) {
-        DeepSpaceLink x = new DeepSpaceLink();
-        Check.due("send(" + message + ")", x.send(message), 50);
-        return x;
-    }
-
-    /** Adds a symbol other than 0 to symbol i of one of the two words of the frame at a place. */
-    private static void spoil(DeepSpaceLink x, int place, int word, int i, int change) {
-        int at = place + 8 + 3 * (2 * i + word);
-        for (int bit = 0; bit < 3; bit++) {
-            if ((change >> (2 - bit) & 1) == 1) {
-                x.flip(at + bit);
-            }
-        }
-    }
-
     private static void answers(String when, DeepSpaceLink x, int message, int mended) {
         Check.due(when + ": message(0)", x.message(0), message);
         Check.due(when + ": mended(0)", x.mended(0), mended);
@@ -56,7 +40,7 @@ public final class MendTest {
             calls += 3;
         }
         for (int message = 262143 - 100; message <= 262143; message++) {
-            answers("untouched " + message, sent(message), message, 0);
+            answers("untouched " + message, Lines.sent(message), message, 0);
         }
     }
 
@@ -64,18 +48,18 @@ public final class MendTest {
         for (int message : MESSAGES) {
             for (int word = 0; word < 2; word++) {
                 for (int first = 0; first < 49; first++) {
-                    DeepSpaceLink one = sent(message);
-                    spoil(one, 0, word, first / 7, first % 7 + 1);
+                    DeepSpaceLink one = Lines.sent(message);
+                    Lines.spoil(one, 0, word, first / 7, first % 7 + 1);
                     answers("one wrong", one, message, 1);
                     for (int second = 0; second < first / 7 * 7; second++) {
-                        DeepSpaceLink two = sent(message);
-                        spoil(two, 0, word, first / 7, first % 7 + 1);
-                        spoil(two, 0, word, second / 7, second % 7 + 1);
+                        DeepSpaceLink two = Lines.sent(message);
+                        Lines.spoil(two, 0, word, first / 7, first % 7 + 1);
+                        Lines.spoil(two, 0, word, second / 7, second % 7 + 1);
                         answers("two wrong", two, message, 2);
                         // The other word has its own two.
-                        spoil(two, 0, 1 - word, second / 7, second % 7 + 1);
+                        Lines.spoil(two, 0, 1 - word, second / 7, second % 7 + 1);
                         answers("two and one wrong", two, message, 3);
-                        spoil(two, 0, 1 - word, first / 7, 7 - first % 7);
+                        Lines.spoil(two, 0, 1 - word, first / 7, 7 - first % 7);
                         answers("two and two wrong", two, message, 4);
                     }
                 }
@@ -85,22 +69,22 @@ public final class MendTest {
 
     private static void threeWrongSymbolsAreLostOrAnotherWord() {
         // 3 2 1 3 1 0 0 is a code word, so 3 2 1 0 0 0 0 is two away from it and three from 0.
-        DeepSpaceLink x = sent(0);
-        spoil(x, 0, 0, 0, 3);
-        spoil(x, 0, 0, 1, 2);
-        spoil(x, 0, 0, 2, 1);
+        DeepSpaceLink x = Lines.sent(0);
+        Lines.spoil(x, 0, 0, 0, 3);
+        Lines.spoil(x, 0, 0, 1, 2);
+        Lines.spoil(x, 0, 0, 2, 1);
         answers("3 2 1 0 0 0 0", x, 0100000, 2);
-        spoil(x, 0, 0, 3, 3);
+        Lines.spoil(x, 0, 0, 3, 3);
         answers("3 2 1 3 0 0 0", x, 0100000, 1);
-        spoil(x, 0, 0, 4, 1);
+        Lines.spoil(x, 0, 0, 4, 1);
         answers("3 2 1 3 1 0 0", x, 0100000, 0);
         int lost = 0;
         for (int changes = 0; changes < 343; changes++) {
             int[] symbols = {0, changes % 7 + 1, 0, changes / 7 % 7 + 1, changes / 49 + 1, 0, 0};
-            DeepSpaceLink y = sent(0);
-            spoil(y, 0, 1, 1, symbols[1]);
-            spoil(y, 0, 1, 3, symbols[3]);
-            spoil(y, 0, 1, 4, symbols[4]);
+            DeepSpaceLink y = Lines.sent(0);
+            Lines.spoil(y, 0, 1, 1, symbols[1]);
+            Lines.spoil(y, 0, 1, 3, symbols[3]);
+            Lines.spoil(y, 0, 1, 4, symbols[4]);
             int[] near = LinkModel.mend(symbols);
             if (near == null) {
                 lost++;
@@ -113,42 +97,28 @@ public final class MendTest {
         Check.due("some are lost and some are not", lost > 0 && lost < 343 ? 1 : 0, 1);
     }
 
-    /** Makes a word lost; what does that is searched for, so that it is so for any message. */
-    private static void lose(DeepSpaceLink x, int place, int word) {
-        for (int changes = 0; changes < 343; changes++) {
-            int[] symbols = {changes % 7 + 1, changes / 7 % 7 + 1, changes / 49 + 1, 0, 0, 0, 0};
-            if (LinkModel.mend(symbols) == null) {
-                for (int i = 0; i < 3; i++) {
-                    spoil(x, place, word, i, symbols[i]);
-                }
-                return;
-            }
-        }
-        throw new IllegalStateException("no three changes lose a word");
-    }
-
     private static void aLostWordLeavesTheOtherOnesCount() {
         for (int word = 0; word < 2; word++) {
-            DeepSpaceLink x = sent(0123456);
-            lose(x, 0, word);
+            DeepSpaceLink x = Lines.sent(0123456);
+            Lines.lose(x, 0, word);
             answers("one word lost", x, DeepSpaceLink.LOST, 0);
-            spoil(x, 0, 1 - word, 6, 5);
+            Lines.spoil(x, 0, 1 - word, 6, 5);
             answers("lost and one wrong", x, DeepSpaceLink.LOST, 1);
-            spoil(x, 0, 1 - word, 0, 7);
+            Lines.spoil(x, 0, 1 - word, 0, 7);
             answers("lost and two wrong", x, DeepSpaceLink.LOST, 2);
-            DeepSpaceLink y = sent(0123456);
-            lose(y, 0, word);
-            lose(y, 0, 1 - word);
+            DeepSpaceLink y = Lines.sent(0123456);
+            Lines.lose(y, 0, word);
+            Lines.lose(y, 0, 1 - word);
             answers("both lost", y, DeepSpaceLink.LOST, 0);
         }
     }
 
     private static void theMarkerIsNotMended() {
-        DeepSpaceLink x = sent(4711);
+        DeepSpaceLink x = Lines.sent(4711);
         x.flip(3);
         answers("a wrong marker bit", x, 4711, 0);
         Check.due("bit(3) stays as it is", x.bit(3), 0);
-        spoil(x, 0, 0, 4, 6);
+        Lines.spoil(x, 0, 0, 4, 6);
         int spoilt = x.bit(8 + 24);
         answers("a wrong symbol", x, 4711, 1);
         Check.due("mending leaves the line alone", x.bit(8 + 24), spoilt);
@@ -156,8 +126,8 @@ public final class MendTest {
     }
 
     private static void wrongFrameNumbersAreBad() {
-        DeepSpaceLink x = sent(12);
-        lose(x, 0, 0);
+        DeepSpaceLink x = Lines.sent(12);
+        Lines.lose(x, 0, 0);
         int[] outside = {-1, 1, 2, 6, Integer.MIN_VALUE, Integer.MAX_VALUE};
         for (int k : outside) {
             Check.due("message(" + k + ")", x.message(k), DeepSpaceLink.BAD);
@@ -175,13 +145,13 @@ public final class MendTest {
             x.send(1000 * n);
             Check.due("good() of " + (n + 1), x.good(), n + 1);
         }
-        spoil(x, 50, 1, 3, 2);
+        Lines.spoil(x, 50, 1, 3, 2);
         Check.due("good() with one mended", x.good(), 6);
-        lose(x, 100, 0);
+        Lines.lose(x, 100, 0);
         Check.due("good() with one lost", x.good(), 5);
-        lose(x, 100, 1);
+        Lines.lose(x, 100, 1);
         Check.due("good() with one lost twice", x.good(), 5);
-        lose(x, 250, 1);
+        Lines.lose(x, 250, 1);
         Check.due("good() with two lost", x.good(), 4);
         Check.due("frames() with two lost", x.frames(), 6);
         // A frame taken in spite of its marker is as good as any.
