@@ -378,10 +378,12 @@ public final class MendEdgesTest {
         }
         x.send(0);
         Check.due("good() after FULL", x.good(), 6);
-        for (int n = 5; n >= 0; n--) {
-            Lines.lose(x, 50 * n, n % 2);
-            Check.due("good() with " + n + " left", x.good(), n);
-            Check.due("frames()", x.frames(), 6);
+        // Lost ones lie before, between and behind the good ones on the way.
+        int[] order = {2, 5, 0, 3, 4, 1};
+        for (int n = 0; n < 6; n++) {
+            Lines.lose(x, 50 * order[n], n % 2);
+            Check.due("good() with " + (n + 1) + " lost", x.good(), 5 - n);
+            Check.due("frames() with " + (n + 1) + " lost", x.frames(), 6);
         }
     }
 
