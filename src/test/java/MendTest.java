@@ -29,7 +29,7 @@ public final class MendTest {
     private static void everyMessageComesBack() {
         DeepSpaceLink x = new DeepSpaceLink();
         int calls = 0;
-        for (int message = 0; message <= 262143; message += 7) {
+        for (int message = 0; message <= 262143; message++) {
             if (calls + 3 > 512) {
                 x = new DeepSpaceLink();
                 calls = 0;

@@ -10,7 +10,7 @@ public final class ModelTest {
         Integer.MIN_VALUE, Integer.MAX_VALUE
     };
 
-    /** How often of a hundred a change is a send, a flip, a drop or an insert; else it is a clear. */
+    /** How often of a hundred a change is a send, a flip, a drop or an insert; else a clear. */
     private static final int[][] MIXTURES = {
         {25, 35, 20, 19},
         {45, 45, 2, 3},
